@@ -1,6 +1,9 @@
+import java.util.function.IntSupplier;
+
 /** Counts and prints the answers that are not the ones due. */
 final class Due {
-    static final int[] WRONG_REGISTERS = {-1, 4, 5, 1000, Integer.MIN_VALUE, Integer.MAX_VALUE};
+    /** The first ones outside on each side, the least and the greatest; 256 and 65536 have 0 in their low bits. */
+    static final int[] WRONG_REGISTERS = {-1, 4, -2, 5, 256, 65536, Integer.MIN_VALUE, Integer.MAX_VALUE};
     private static int wrong = 0;
     private static int checked = 0;
 
@@ -41,6 +44,30 @@ final class Due {
             is("set(" + r + ", " + parts[2 * r] + ", " + parts[2 * r + 1] + ")", x.set(r, parts[2 * r], parts[2 * r + 1]), true);
         }
         return x;
+    }
+
+    /** An object whose registers hold four fractions of different shapes. */
+    static GosperFractions filled() {
+        return with(13, 11, -22, 7, 9999, 9998, -5, 1);
+    }
+
+    /** The call answers why, and no register changes. */
+    static void refused(String call, GosperFractions x, IntSupplier answer, int why) {
+        int[] before = registers(x);
+        is(call, answer.getAsInt(), why);
+        int[] after = registers(x);
+        for (int i = 0; i < before.length; i++) {
+            is(call + ", refused: " + (i % 2 == 0 ? "top(" : "bottom(") + i / 2 + ")", after[i], before[i]);
+        }
+    }
+
+    private static int[] registers(GosperFractions x) {
+        int[] parts = new int[8];
+        for (int r = 0; r < 4; r++) {
+            parts[2 * r] = x.top(r);
+            parts[2 * r + 1] = x.bottom(r);
+        }
+        return parts;
     }
 
     static void end() {

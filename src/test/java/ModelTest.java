@@ -4,8 +4,9 @@ import java.util.List;
 
 /** Long runs of calls, each held against fractions of BigInteger that know nothing of the class's ways. */
 public final class ModelTest {
-    private static final int RUNS = 3000;
-    private static final int CALLS = 60;
+    private static final int RUNS = 6000;
+    /** A step makes one call and looks at four registers with four calls each: 510 calls, of the 512 an object has. */
+    private static final int STEPS = 30;
     private static final BigInteger GREATEST = BigInteger.valueOf(9999);
     private static final int BAD = GosperFractions.BAD;
     private static final int NONE = GosperFractions.NONE;
@@ -23,8 +24,8 @@ public final class ModelTest {
                 TOPS[r] = BigInteger.ZERO;
                 BOTTOMS[r] = BigInteger.ONE;
             }
-            for (int call = 0; call < CALLS; call++) {
-                step("run " + run + ", call " + call + ": ");
+            for (int step = 0; step < STEPS; step++) {
+                step("run " + run + ", step " + step + ": ");
             }
         }
         Due.end();
