@@ -51,13 +51,25 @@ final class Due {
         return with(13, 11, -22, 7, 9999, 9998, -5, 1);
     }
 
-    /** The call answers why, and no register changes. */
-    static void refused(String call, GosperFractions x, IntSupplier answer, int why) {
-        int[] before = registers(x);
-        is(call, answer.getAsInt(), why);
-        int[] after = registers(x);
-        for (int i = 0; i < before.length; i++) {
-            is(call + ", refused: " + (i % 2 == 0 ? "top(" : "bottom(") + i / 2 + ")", after[i], before[i]);
+    /** The call answers this, and no register changes. */
+    static void changesNothing(String call, GosperFractions x, IntSupplier answer, int want) {
+        int[] due = registers(x);
+        is(call, answer.getAsInt(), want);
+        hold(call, x, due);
+    }
+
+    /** The call answers this, register d becomes p / q, and no other register changes. */
+    static void changesOnly(int d, int p, int q, String call, GosperFractions x, IntSupplier answer, int want) {
+        int[] due = registers(x);
+        due[2 * d] = p;
+        due[2 * d + 1] = q;
+        is(call, answer.getAsInt(), want);
+        hold(call, x, due);
+    }
+
+    private static void hold(String after, GosperFractions x, int[] due) {
+        for (int r = 0; r < 4; r++) {
+            holds(after, x, r, due[2 * r], due[2 * r + 1]);
         }
     }
 

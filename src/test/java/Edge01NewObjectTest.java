@@ -24,9 +24,9 @@ public final class Edge01NewObjectTest {
 
     private static void afterRefusals() {
         GosperFractions x = new GosperFractions();
-        Due.refused("new: set(0, 10000, 1)", x, () -> x.set(0, 10000, 1) ? 1 : 0, 0);
-        Due.refused("new: set(0, 1, 0)", x, () -> x.set(0, 1, 0) ? 1 : 0, 0);
-        Due.refused("new: transform(0, 1, 1001001000)", x, () -> x.transform(0, 1, 1001001000L), GosperFractions.NONE);
+        Due.changesNothing("new: set(0, 10000, 1)", x, () -> x.set(0, 10000, 1) ? 1 : 0, 0);
+        Due.changesNothing("new: set(0, 1, 0)", x, () -> x.set(0, 1, 0) ? 1 : 0, 0);
+        Due.changesNothing("new: transform(0, 1, 1001001000)", x, () -> x.transform(0, 1, 1001001000L), GosperFractions.NONE);
         for (int r = 0; r < 4; r++) {
             Due.holds("new, after refusals", x, r, 0, 1);
         }

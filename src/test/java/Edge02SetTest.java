@@ -27,14 +27,11 @@ public final class Edge02SetTest {
         Due.holds("set(0, 9998, 2)", Due.with(9998, 2), 0, 4999, 1);
     }
 
-    /** Already in lowest terms; no other register changes. */
+    /** For a fraction that is in lowest terms already. */
     private static void taken(int r, int p, int q) {
-        GosperFractions x = Due.with(3, 5, 3, 5, 3, 5, 3, 5);
+        GosperFractions x = Due.filled();
         String call = "set(" + r + ", " + p + ", " + q + ")";
-        Due.is(call, x.set(r, p, q), true);
-        for (int each = 0; each < 4; each++) {
-            Due.holds(call, x, each, each == r ? p : 3, each == r ? q : 5);
-        }
+        Due.changesOnly(r, p, q, call, x, () -> x.set(r, p, q) ? 1 : 0, 1);
     }
 
     private static void registerOutside() {
@@ -81,6 +78,6 @@ public final class Edge02SetTest {
 
     private static void refused(int r, int p, int q) {
         GosperFractions x = Due.filled();
-        Due.refused("set(" + r + ", " + p + ", " + q + ")", x, () -> x.set(r, p, q) ? 1 : 0, 0);
+        Due.changesNothing("set(" + r + ", " + p + ", " + q + ")", x, () -> x.set(r, p, q) ? 1 : 0, 0);
     }
 }

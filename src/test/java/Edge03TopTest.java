@@ -7,7 +7,7 @@ public final class Edge03TopTest {
         Due.is("top(2)", x.top(2), 1);
         Due.is("top(3)", x.top(3), -1);
         for (int r : Due.WRONG_REGISTERS) {
-            Due.refused("top(" + r + ")", x, () -> x.top(r), GosperFractions.BAD);
+            Due.changesNothing("top(" + r + ")", x, () -> x.top(r), GosperFractions.BAD);
         }
         Due.end();
     }

@@ -7,7 +7,7 @@ public final class Edge04BottomTest {
         Due.is("bottom(2)", x.bottom(2), 9998);
         Due.is("bottom(3)", x.bottom(3), 1);
         for (int r : Due.WRONG_REGISTERS) {
-            Due.refused("bottom(" + r + ")", x, () -> x.bottom(r), GosperFractions.BAD);
+            Due.changesNothing("bottom(" + r + ")", x, () -> x.bottom(r), GosperFractions.BAD);
         }
         Due.end();
     }

@@ -45,6 +45,6 @@ public final class Edge06TermTest {
     }
 
     private static void refused(GosperFractions x, int r, int i, int why) {
-        Due.refused("term(" + r + ", " + i + ")", x, () -> x.term(r, i), why);
+        Due.changesNothing("term(" + r + ", " + i + ")", x, () -> x.term(r, i), why);
     }
 }

@@ -35,10 +35,10 @@ public final class Edge09CompareTest {
     private static void rising(int p, int q, int s, int t) {
         GosperFractions x = Due.with(p, q, s, t, s, t);
         String of = " of " + p + " / " + q + " and " + s + " / " + t;
-        Due.refused("compare(0, 1)" + of, x, () -> x.compare(0, 1), -1);
-        Due.refused("compare(1, 0)" + of, x, () -> x.compare(1, 0), 1);
-        Due.refused("compare(1, 2)" + of, x, () -> x.compare(1, 2), 0);
-        Due.refused("compare(0, 0)" + of, x, () -> x.compare(0, 0), 0);
+        Due.changesNothing("compare(0, 1)" + of, x, () -> x.compare(0, 1), -1);
+        Due.changesNothing("compare(1, 0)" + of, x, () -> x.compare(1, 0), 1);
+        Due.changesNothing("compare(1, 2)" + of, x, () -> x.compare(1, 2), 0);
+        Due.changesNothing("compare(0, 0)" + of, x, () -> x.compare(0, 0), 0);
     }
 
     private static void numberOutside() {
@@ -55,6 +55,6 @@ public final class Edge09CompareTest {
     }
 
     private static void refused(GosperFractions x, int a, int b) {
-        Due.refused("compare(" + a + ", " + b + ")", x, () -> x.compare(a, b), GosperFractions.BAD);
+        Due.changesNothing("compare(" + a + ", " + b + ")", x, () -> x.compare(a, b), GosperFractions.BAD);
     }
 }

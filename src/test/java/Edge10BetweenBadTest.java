@@ -10,18 +10,19 @@ public final class Edge10BetweenBadTest {
         for (int d = 0; d < 4; d++) {
             for (int a = 0; a < 4; a++) {
                 for (int b = 0; b < 4; b++) {
-                    GosperFractions x = Due.with(2, 3, 5, 3, 8, 3, 11, 3);
-                    String call = "between(" + d + ", " + a + ", " + b + ")";
-                    // Two of these have a whole number between them, and each is alone with itself.
-                    Due.is(call, x.between(d, a, b), a == b ? 3 : 1);
-                    int low = Math.min(a, b);
-                    for (int r = 0; r < 4; r++) {
-                        boolean changed = r == d && a != b;
-                        Due.holds(call, x, r, changed ? low + 1 : 3 * (r == d ? a : r) + 2, changed ? 1 : 3);
-                    }
+                    gives(d, a, b);
                 }
             }
         }
+    }
+
+    /** Any two of these have a whole number between them, and each is alone with itself. */
+    private static void gives(int d, int a, int b) {
+        GosperFractions x = Due.with(2, 3, 5, 3, 8, 3, 11, 3);
+        String call = "between(" + d + ", " + a + ", " + b + ")";
+        int top = a == b ? 3 * a + 2 : Math.min(a, b) + 1;
+        int bottom = a == b ? 3 : 1;
+        Due.changesOnly(d, top, bottom, call, x, () -> x.between(d, a, b), bottom);
     }
 
     private static void numberOutside() {
@@ -45,6 +46,6 @@ public final class Edge10BetweenBadTest {
 
     private static void refused(int d, int a, int b) {
         GosperFractions x = Due.filled();
-        Due.refused("between(" + d + ", " + a + ", " + b + ")", x, () -> x.between(d, a, b), GosperFractions.BAD);
+        Due.changesNothing("between(" + d + ", " + a + ", " + b + ")", x, () -> x.between(d, a, b), GosperFractions.BAD);
     }
 }

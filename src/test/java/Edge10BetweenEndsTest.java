@@ -98,14 +98,8 @@ public final class Edge10BetweenEndsTest {
 
     private static void into(int d, int a, int b, int p, int q, int s, int t, int top, int bottom) {
         GosperFractions x = Due.with(p, q, s, t, 3, 5, 4, 5);
-        int[] due = {p, q, s, t, 3, 5, 4, 5};
-        due[2 * d] = top;
-        due[2 * d + 1] = bottom;
         String call = "between(" + d + ", " + a + ", " + b + ") of " + p + " / " + q + " and " + s + " / " + t;
-        Due.is(call, x.between(d, a, b), bottom);
-        for (int r = 0; r < 4; r++) {
-            Due.holds(call, x, r, due[2 * r], due[2 * r + 1]);
-        }
+        Due.changesOnly(d, top, bottom, call, x, () -> x.between(d, a, b), bottom);
     }
 
     private static void everySmallPair() {

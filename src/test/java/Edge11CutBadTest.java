@@ -12,14 +12,14 @@ public final class Edge11CutBadTest {
     private static void lastInside() {
         for (int d = 0; d < 4; d++) {
             for (int a = 0; a < 4; a++) {
-                GosperFractions x = Due.with(1, 2, 3, 2, 5, 2, 7, 2);
-                String call = "cut(" + d + ", " + a + ", 1)";
-                Due.is(call, x.cut(d, a, 1), 1);
-                for (int r = 0; r < 4; r++) {
-                    Due.holds(call, x, r, r == d ? a : 2 * r + 1, r == d ? 1 : 2);
-                }
+                firstTerm(d, a);
             }
         }
+    }
+
+    private static void firstTerm(int d, int a) {
+        GosperFractions x = Due.with(1, 2, 3, 2, 5, 2, 7, 2);
+        Due.changesOnly(d, a, 1, "cut(" + d + ", " + a + ", 1)", x, () -> x.cut(d, a, 1), 1);
     }
 
     private static void registerOutside() {
@@ -48,6 +48,6 @@ public final class Edge11CutBadTest {
 
     private static void refused(int d, int a, int count) {
         GosperFractions x = Due.filled();
-        Due.refused("cut(" + d + ", " + a + ", " + count + ")", x, () -> x.cut(d, a, count), GosperFractions.BAD);
+        Due.changesNothing("cut(" + d + ", " + a + ", " + count + ")", x, () -> x.cut(d, a, count), GosperFractions.BAD);
     }
 }

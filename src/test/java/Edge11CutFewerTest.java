@@ -33,15 +33,13 @@ public final class Edge11CutFewerTest {
     /** Into every register, that of a among them. */
     private static void gives(int p, int q, int count, int top, int bottom, int terms) {
         for (int d = 0; d < 4; d++) {
-            GosperFractions x = Due.with(3, 5, p, q, 3, 5, 3, 5);
-            int[] due = {3, 5, p, q, 3, 5, 3, 5};
-            due[2 * d] = top;
-            due[2 * d + 1] = bottom;
-            String call = "cut(" + d + ", 1, " + count + ") of " + p + " / " + q;
-            Due.is(call, x.cut(d, 1, count), terms);
-            for (int r = 0; r < 4; r++) {
-                Due.holds(call, x, r, due[2 * r], due[2 * r + 1]);
-            }
+            into(d, p, q, count, top, bottom, terms);
         }
+    }
+
+    private static void into(int d, int p, int q, int count, int top, int bottom, int terms) {
+        GosperFractions x = Due.with(3, 5, p, q, 3, 5, 3, 5);
+        String call = "cut(" + d + ", 1, " + count + ") of " + p + " / " + q;
+        Due.changesOnly(d, top, bottom, call, x, () -> x.cut(d, 1, count), terms);
     }
 }
